@@ -264,11 +264,8 @@ public final class SparseFormulas {
     }
 
     public int assign(int to, int p, int q, int format) {
-        if (!isRegister(to) || p < NO_INDEX || p >= INDICES || q < NO_INDEX || q >= INDICES) {
-            return BAD_ARG;
-        }
         int rank = p == NO_INDEX ? 0 : q == NO_INDEX ? 1 : 2;
-        if (!areIndicesOfRank(rank, p, q) || !isFormat(rank, format)) {
+        if (!isRegister(to) || !areIndicesOfRank(rank, p, q) || !isFormat(rank, format)) {
             return BAD_ARG;
         }
         if (depth != 1) {
