@@ -115,6 +115,8 @@ public final class AssignBoundaryTest {
                 Check.due("rank 1 of rows", x.assign(2, p, -1, 0), 2);
                 Check.due("rank 1 of rows, numbers", x.digest(2), 6 + 15 * 8);
                 Check.due("rank 1 of rows, rank", x.format(2, 2), Check.BAD_ARG);
+                Check.due("rank 1 of rows, columns", x.length(2, 1), 1);
+                Check.due("rank 1 of rows, nothing beside", x.get(2, 0, 1), Check.NONE);
                 x.array(0, p, q);
                 Check.due("rank 1 of columns", x.assign(2, q, -1, 0), 3);
                 Check.due("rank 1 of columns, numbers", x.digest(2), 5 + 7 * 8 + 9 * 15);
@@ -123,6 +125,8 @@ public final class AssignBoundaryTest {
                 Check.due("rank 0, number", x.get(2, 0, 0), 21);
                 Check.due("rank 0, rank", x.format(2, 1), Check.BAD_ARG);
                 Check.due("rank 0, rows", x.length(2, 0), 1);
+                Check.due("rank 0, columns", x.length(2, 1), 1);
+                Check.due("rank 0, nothing beside", x.get(2, 0, 1), Check.NONE);
                 x.array(0, p, q);
                 Check.due("rank 2, turned", x.assign(2, q, p, 0), 6);
                 x.turn(2);
