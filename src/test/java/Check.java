@@ -16,13 +16,17 @@ final class Check {
 
     static void due(String what, int got, int want) {
         if (got != want) {
-            wrong++;
-            System.out.println(what + " answered " + got + ", due is " + want);
+            fault(what + " answered " + got + ", due is " + want);
         }
     }
 
     static void due(String what, boolean got, boolean want) {
         due(what, got ? 1 : 0, want ? 1 : 0);
+    }
+
+    static void fault(String what) {
+        wrong++;
+        System.out.println(what);
     }
 
     static void end() {

@@ -62,19 +62,21 @@ public final class ReadmeTest {
     private static void call(SparseFormulas x, String where, String line) throws ReflectiveOperationException {
         Matcher found = CALL.matcher(line);
         if (!found.matches() || !METHODS.containsKey(found.group(1))) {
-            Check.due(where + " is no call with its answer: " + line, false, true);
+            Check.fault(where + " is no call with its answer: " + line);
             return;
         }
         Method method = METHODS.get(found.group(1));
         Object[] arguments = arguments(found.group(2));
         if (arguments.length != method.getParameterCount()) {
-            Check.due(where + " has a wrong number of arguments: " + line, false, true);
+            Check.fault(where + " has a wrong number of arguments: " + line);
             return;
         }
         NOT_SHOWN.remove(method.getName());
         Object answer = method.invoke(x, arguments);
         String got = answer == null ? "nothing" : answer.toString();
-        Check.due(where + ": " + line + " (answered " + got + ")", got.equals(plain(found.group(3))), true);
+        if (!got.equals(plain(found.group(3)))) {
+            Check.fault(where + ": " + line + " answered " + got);
+        }
     }
 
     private static Object[] arguments(String text) throws ReflectiveOperationException {
